@@ -120,7 +120,29 @@ public final class RandomRuns {
     }
   }
 
+  /** Seas in which EACH for itself comes to no rest: the PLANS of the last round stand. */
+  private static final String[] RESTLESS = {
+      "h3,1,2,2;b4,1,6,55,4;b1,4,3,69,4;d0,0,1;d1,0,16;s10,6,9,9,18,0;r9,86;r5,79;r3,5;",
+      "h3,1,9,6;b4,6,3,164,4;b4,5,2,141,0;b4,4,8,286,3;d0,0,14;d1,0,10;d2,0,2;s10,4,3,5,13,2;r9,28;r5,89;",
+      "h4,1,8,0;h4,1,4,10;b2,9,3,72,3;b4,4,7,122,2;b1,6,2,4,0;d0,0,8;d0,1,12;d1,0,8;d1,1,17;d2,0,13;d2,1,2;s10,7,4,9,18,3;r9,126;r5,165;",
+      "h3,2,3,2;h4,1,5,6;b2,6,3,291,3;b2,9,7,256,2;b2,6,5,152,3;d0,0,16;d0,1,15;d1,0,10;d1,1,16;d2,0,20;d2,1,3;s10,7,4,9,10,2;r9,100;r5,39;",
+      "h3,2,6,5;b2,8,3,107,3;b2,4,8,269,0;b2,6,5,149,3;d0,0,20;d1,0,2;d2,0,15;s10,6,1,9,15,2;r9,187;r5,81;",
+      "h3,1,5,0;b4,6,1,28,3;b2,2,3,276,4;b2,7,5,126,4;d0,0,16;d1,0,17;d2,0,15;s10,6,7,9,6,2;r9,146;r5,118;"};
+
+  private static void restless() {
+    for (int k = 0; k < RESTLESS.length; k++) {
+      Both both = new Both(-1 - k);
+      both.tell(RESTLESS[k]);
+      both.same("lay", both.got.lay(), both.due.lay());
+      both.same("better, restless", both.got.better(true), PlainSea.NONE);
+      both.due.better(true);
+      both.same("mean, restless", both.got.mean(), both.due.mean());
+      for (int i = 0; i < both.got.count(1); i++) both.same("plan, restless", both.got.ran(0, 0, i), both.due.ran(0, 0, i));
+    }
+  }
+
   public static void main(String[] args) {
+    restless();
     for (int run = 0; run < RUNS; run++) {
       Both both = new Both(run);
       if (run % 10 != 0) both.newSea();
