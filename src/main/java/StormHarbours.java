@@ -164,7 +164,7 @@ public final class StormHarbours {
             return BAD_SUM;
         }
         passage.asUsual();
-        return passage.worthOfAll(s, watch.plans);
+        return passage.worthOf(s, watch.plans, sea.allSorts());
     }
 
     public int in(int s, int i) {
@@ -182,12 +182,12 @@ public final class StormHarbours {
         }
         passage.asUsual();
         passage.sail(s, watch.plans);
-        return sea.alive[pair(s, i)][passage.entry[i][n]];
+        return sea.aliveAt(s, i, passage.entry[i][n]);
     }
 
     public long mean() {
         passage.asUsual();
-        return passage.meanOf(watch.plans, watch.thought);
+        return passage.meanOf(watch.plans, watch.thought, sea.allSorts());
     }
 
     public int shut(int s) {
@@ -292,7 +292,13 @@ public final class StormHarbours {
     public int better(boolean own) {
         passage.asUsual();
         for (int round = 1; round <= MOST_ROUNDS; round++) {
-            if (!council.changesInRound(own)) {
+            boolean changed = false;
+            for (int i = 0; i < sea.sortCount; i++) {
+                if (council.improves(i, own ? 1 << i : sea.allSorts())) {
+                    changed = true;
+                }
+            }
+            if (!changed) {
                 return round;
             }
         }
@@ -321,7 +327,7 @@ public final class StormHarbours {
 
     public long convoy(int sorts, int u, int j) {
         // A convoy of none has no least SPEED: 0 is no number of SORTS that is told.
-        if (sorts < 1 || sorts >= 1 << sea.sortCount || !isHour(u) || !sea.isHarbour(j)) {
+        if (sorts < 1 || sorts > sea.allSorts() || !isHour(u) || !sea.isHarbour(j)) {
             return BAD_SUM;
         }
         trial.copyFrom(watch.plans);
@@ -331,12 +337,12 @@ public final class StormHarbours {
             }
         }
         passage.inConvoy(sorts, sea.leastSpeed(sorts));
-        return passage.meanOf(trial, watch.thought);
+        return passage.meanOf(trial, watch.thought, sea.allSorts());
     }
 
     public long first() {
         passage.dearestFirst();
-        return passage.meanOf(watch.plans, watch.thought);
+        return passage.meanOf(watch.plans, watch.thought, sea.allSorts());
     }
 
     public long night(int z, int rule, int what) {
@@ -389,7 +395,7 @@ public final class StormHarbours {
     private long worthByRule(int rule, int s) {
         rules.follow(rule, s, trial);
         passage.asUsual();
-        return passage.worthOfAll(s, trial);
+        return passage.worthOf(s, trial, sea.allSorts());
     }
 
     private long meanOfGun(int u) {
@@ -397,7 +403,7 @@ public final class StormHarbours {
             trial.send(i, u, sea.nearest(i));
         }
         passage.asUsual();
-        return passage.meanOf(trial, watch.thought);
+        return passage.meanOf(trial, watch.thought, sea.allSorts());
     }
 
     private static boolean isHour(int t) {
@@ -410,11 +416,6 @@ public final class StormHarbours {
 
     private static boolean isRule(int rule) {
         return rule >= TOLD && rule <= STAY;
-    }
-
-    /** The row of two numbers below MOST. */
-    private static int pair(int a, int b) {
-        return a * MOST + b;
     }
 
     /** THE TEXT, and the reading of its ITEMS. */
@@ -445,11 +446,7 @@ public final class StormHarbours {
 
         /** The place of the first ITEM that is not so, or NONE; counts what the ITEMS tell. */
         int firstFault() {
-            at = 0;
-            harbours = 0;
-            sorts = 0;
-            storms = 0;
-            tenths = 0;
+            toBegin();
             // Each ITEM takes a byte at least.
             for (int items = 0; items < MOST_BYTES && at < length; items++) {
                 int start = at;
@@ -468,13 +465,22 @@ public final class StormHarbours {
 
         /** Gives the ITEMS of a TEXT without FAULT to a sea. */
         void fill(Sea sea) {
-            at = 0;
+            toBegin();
             for (int items = 0; items < MOST_BYTES && at < length; items++) {
-                if (!readItem()) {
+                if (!readItem() || !isSound()) {
                     return;
                 }
                 sea.take(letter, numbers);
+                tally();
             }
+        }
+
+        private void toBegin() {
+            at = 0;
+            harbours = 0;
+            sorts = 0;
+            storms = 0;
+            tenths = 0;
         }
 
         private boolean readItem() {
@@ -586,17 +592,17 @@ public final class StormHarbours {
 
         /** By STORM and HOUR. */
         private final int[][] strength = new int[MOST][HOURS];
-        /** By pair(HARBOUR, STORM): the HOURS at which it is OPEN, as bits. */
-        private final int[] openHours = new int[MOST * MOST];
+        /** By HARBOUR and STORM: the HOURS at which it is OPEN, as bits. */
+        private final int[][] openHours = new int[MOST][MOST];
         /**
-         * By pair(STORM, SORT) and HOUR: what LIVES of a boat that is not in as the HOUR begins.
+         * By STORM times MOST and SORT, then HOUR: what LIVES of a boat that is not in before it.
          * The RISK is the same on the bank, under way and at the MOUTH, so it hangs on no PLAN.
          */
         private final int[][] alive = new int[MOST * MOST][HOURS + 1];
-        /** By pair(STORM, SORT) and HOUR: the fish of a boat that stayed on the bank till then. */
+        /** By STORM times MOST and SORT, then HOUR: the fish of a boat on the bank till then. */
         private final long[][] fished = new long[MOST * MOST][HOURS + 1];
-        /** By pair(pair(STORM, SORT), HARBOUR) and the HOUR it ran: when it is at the MOUTH. */
-        private final int[][] arrivals = new int[MOST * MOST * MOST][HOURS];
+        /** By STORM times MOST and SORT, then HARBOUR times HOURS and the HOUR it ran. */
+        private final int[][] arrivals = new int[MOST * MOST][MOST * HOURS];
 
         void clear() {
             harbourCount = 0;
@@ -616,7 +622,7 @@ public final class StormHarbours {
             }
         }
 
-        /** Takes an ITEM of which the TEXT has made sure that it is so. */
+        /** Takes an ITEM of which the TEXT has just made sure that it is so, its places too. */
         void take(int letter, int[] numbers) {
             switch (letter) {
                 case 'h':
@@ -660,7 +666,7 @@ public final class StormHarbours {
                     strength[s][t] = strengthOf(storms[s], t);
                 }
                 for (int j = 0; j < harbourCount; j++) {
-                    openHours[pair(j, s)] = openHoursOf(j, s);
+                    openHours[j][s] = openHoursOf(j, s);
                 }
                 for (int i = 0; i < sortCount; i++) {
                     reckonBank(s, i);
@@ -688,8 +694,8 @@ public final class StormHarbours {
         }
 
         private void reckonBank(int s, int i) {
-            int[] living = alive[pair(s, i)];
-            long[] catches = fished[pair(s, i)];
+            int[] living = alive[s * MOST + i];
+            long[] catches = fished[s * MOST + i];
             living[0] = WHOLE;
             catches[0] = 0;
             for (int t = 0; t < HOURS; t++) {
@@ -700,10 +706,10 @@ public final class StormHarbours {
         }
 
         private void reckonArrivals(int s, int i) {
+            int[] row = arrivals[s * MOST + i];
             for (int j = 0; j < harbourCount; j++) {
-                int[] row = arrivals[pair(pair(s, i), j)];
                 for (int u = 0; u < HOURS; u++) {
-                    row[u] = arrivalAt(sorts[i][SPEED], miles[i][j], s, u);
+                    row[j * HOURS + u] = arrivalAt(sorts[i][SPEED], miles[i][j], s, u);
                 }
             }
         }
@@ -723,7 +729,7 @@ public final class StormHarbours {
 
         /** The same for a boat of a SORT that makes its own SPEED; u may be NEVER. */
         int arrival(int i, int j, int s, int u) {
-            return u < HOURS ? arrivals[pair(pair(s, i), j)][u] : NEVER;
+            return u < HOURS ? arrivals[s * MOST + i][j * HOURS + u] : NEVER;
         }
 
         /** The HOUR at which a boat goes in that is alone at the MOUTH, or NEVER. */
@@ -736,8 +742,18 @@ public final class StormHarbours {
             return NEVER;
         }
 
+        /** What LIVES as an HOUR begins (24: in the end) of a boat that is not in before. */
+        int aliveAt(int s, int i, int t) {
+            return alive[s * MOST + i][t];
+        }
+
+        /** The worth of the fish of a boat that was on the bank till HOUR u (24: to the end). */
+        long fishedTill(int s, int i, int u) {
+            return fished[s * MOST + i][u];
+        }
+
         boolean isOpen(int j, int s, int t) {
-            return (openHours[pair(j, s)] >> t & 1) != 0;
+            return (openHours[j][s] >> t & 1) != 0;
         }
 
         int riskOf(int i, int s, int t) {
@@ -770,6 +786,10 @@ public final class StormHarbours {
                 sum += sorts[i][BOATS];
             }
             return sum;
+        }
+
+        int allSorts() {
+            return (1 << sortCount) - 1;
         }
 
         int allStorms() {
@@ -903,46 +923,36 @@ public final class StormHarbours {
             dearFirst = true;
         }
 
-        /** The sum of tenths times VALUE over a set of STORMS. */
-        long meanOf(Plans plans, int thought) {
+        /** The sum of tenths times VALUE of the boats of some SORTS over a set of STORMS. */
+        long meanOf(Plans plans, int thought, int sorts) {
             long sum = 0;
             for (int s = 0; s < sea.stormCount; s++) {
                 if ((thought >> s & 1) != 0 && sea.storms[s][TENTHS] > 0) {
-                    sum += sea.storms[s][TENTHS] * worthOfAll(s, plans);
+                    sum += sea.storms[s][TENTHS] * worthOf(s, plans, sorts);
                 }
             }
             return sum;
         }
 
-        /** The same of the boats of one SORT. */
-        long meanOfSort(int i, Plans plans, int thought) {
-            long sum = 0;
-            for (int s = 0; s < sea.stormCount; s++) {
-                if ((thought >> s & 1) != 0 && sea.storms[s][TENTHS] > 0) {
-                    sail(s, plans);
-                    sum += sea.storms[s][TENTHS] * worthOf(s, i, plans);
-                }
-            }
-            return sum;
-        }
-
-        long worthOfAll(int s, Plans plans) {
+        /** VALUE of the boats of some SORTS in a STORM, in which all of them sail. */
+        long worthOf(int s, Plans plans, int sorts) {
             sail(s, plans);
             long sum = 0;
             for (int i = 0; i < sea.sortCount; i++) {
-                sum += worthOf(s, i, plans);
+                if ((sorts >> i & 1) != 0) {
+                    sum += worthOfSort(s, i, plans);
+                }
             }
             return sum;
         }
 
-        private long worthOf(int s, int i, Plans plans) {
-            int[] living = sea.alive[pair(s, i)];
+        private long worthOfSort(int s, int i, Plans plans) {
             int boats = sea.sorts[i][BOATS];
             long dead = 0;
             for (int n = 0; n < boats; n++) {
-                dead += WHOLE - living[entry[i][n]];
+                dead += WHOLE - sea.aliveAt(s, i, entry[i][n]);
             }
-            return boats * sea.fished[pair(s, i)][plans.hour[i]] - sea.sorts[i][WORTH] * dead;
+            return boats * sea.fishedTill(s, i, plans.hour[i]) - sea.sorts[i][WORTH] * dead;
         }
 
         void sail(int s, Plans plans) {
@@ -981,14 +991,14 @@ public final class StormHarbours {
 
         /** Whether SORT a goes in ahead of SORT b, a lower one. */
         private boolean goesAhead(int a, int b) {
-            if (dearFirst && dearness(a) != dearness(b)) {
-                return dearness(a) > dearness(b);
+            if (dearFirst) {
+                int dearA = sea.sorts[a][WORTH] * sea.sorts[a][HAZARD];
+                int dearB = sea.sorts[b][WORTH] * sea.sorts[b][HAZARD];
+                if (dearA != dearB) {
+                    return dearA > dearB;
+                }
             }
             return arrival[a] < arrival[b];
-        }
-
-        private int dearness(int i) {
-            return sea.sorts[i][WORTH] * sea.sorts[i][HAZARD];
         }
 
         private void letIn(int j, int s, Plans plans) {
@@ -1077,23 +1087,18 @@ public final class StormHarbours {
             int best = 0;
             int most = -1;
             for (int j = 0; j < sea.harbourCount; j++) {
-                int tenths = tenthsInto(i, j, u);
+                int tenths = 0;
+                for (int s = 0; s < sea.stormCount; s++) {
+                    if ((watch.thought >> s & 1) != 0 && sea.entryAlone(i, j, s, u) < NEVER) {
+                        tenths += sea.storms[s][TENTHS];
+                    }
+                }
                 if (tenths > most || tenths == most && sea.miles[i][j] < sea.miles[i][best]) {
                     most = tenths;
                     best = j;
                 }
             }
             return best;
-        }
-
-        private int tenthsInto(int i, int j, int u) {
-            int tenths = 0;
-            for (int s = 0; s < sea.stormCount; s++) {
-                if ((watch.thought >> s & 1) != 0 && sea.entryAlone(i, j, s, u) < NEVER) {
-                    tenths += sea.storms[s][TENTHS];
-                }
-            }
-            return tenths;
         }
     }
 
@@ -1154,9 +1159,8 @@ public final class StormHarbours {
             long sum = 0;
             for (int s = 0; s < sea.stormCount; s++) {
                 if ((set >> s & 1) != 0) {
-                    int[] living = sea.alive[pair(s, i)];
-                    long dead = WHOLE - living[sea.entryAlone(i, j, s, u)];
-                    long worth = sea.fished[pair(s, i)][u] - sea.sorts[i][WORTH] * dead;
+                    long dead = WHOLE - sea.aliveAt(s, i, sea.entryAlone(i, j, s, u));
+                    long worth = sea.fishedTill(s, i, u) - sea.sorts[i][WORTH] * dead;
                     sum += sea.storms[s][TENTHS] * worth;
                 }
             }
@@ -1176,27 +1180,17 @@ public final class StormHarbours {
             this.passage = passage;
         }
 
-        boolean changesInRound(boolean own) {
-            boolean changed = false;
-            for (int i = 0; i < sea.sortCount; i++) {
-                if (improves(i, own)) {
-                    changed = true;
-                }
-            }
-            return changed;
-        }
-
-        /** Gives a SORT the best PLAN, if it is better than the one it has: whether it is. */
-        private boolean improves(int i, boolean own) {
+        /** Gives a SORT the PLAN of the greatest MEAN of some SORTS: whether it had a worse one. */
+        boolean improves(int i, int sorts) {
             Plans plans = watch.plans;
             int bestHour = plans.hour[i];
             int bestHarbour = plans.harbour[i];
-            long most = aim(i, own);
+            long most = passage.meanOf(plans, watch.thought, sorts);
             boolean found = false;
             for (int u = 0; u <= NEVER; u++) {
                 for (int j = 0; j < sea.harbourCount; j++) {
                     plans.send(i, u, j);
-                    long sum = aim(i, own);
+                    long sum = passage.meanOf(plans, watch.thought, sorts);
                     if (sum > most) {
                         most = sum;
                         bestHour = u;
@@ -1207,12 +1201,6 @@ public final class StormHarbours {
             }
             plans.send(i, bestHour, bestHarbour);
             return found;
-        }
-
-        private long aim(int i, boolean own) {
-            return own
-                    ? passage.meanOfSort(i, watch.plans, watch.thought)
-                    : passage.meanOf(watch.plans, watch.thought);
         }
     }
 }
