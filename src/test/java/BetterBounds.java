@@ -34,6 +34,13 @@ public final class BetterBounds {
       due("told at 0", Bounds.laid(sea + "g0,0,1;").alone(0), 5 * 24000000L);
       due("told at 1", Bounds.laid(sea + "g0,1,1;").alone(0), 5 * (1000000L - 19000000L) + 5 * 24000000L);
     });
+    test(21, "the GLASS of that HOUR being seen", "each that it can tell, 0 to 9", () -> {
+      for (int v = 0; v <= 9; v++) {
+        long parted = 5 * 4000000L + 5 * 24000000L;
+        due("told " + v, Bounds.laid(GALE + "g0,4," + v + ";").alone(0), v == 0 ? 40000000 : parted);
+        due("told 9 and " + v, Bounds.laid(GALE + "g0,4," + v + ";g1,4,9;").alone(0), v == 9 ? 40000000 : parted);
+      }
+    });
     test(21, "it goes in when OPEN, M, ROOM are not asked", "8 boats, ROOM for one; one waits for the BAR", () -> {
       due("ROOM", Bounds.laid(HARD.replace("h9,9", "h1,1").replace("b1,9", "b8,9")).alone(0), 10 * 4000000L);
       // Shut at 1 and 2, it waits at the MOUTH and goes in at 3 with 640000 left of 1000000.
@@ -92,6 +99,13 @@ public final class BetterBounds {
       StormHarbours x = Bounds.laid("h9,9,10,0;b1,9,0,100,1;d0,0,9;s10,23,9,9,24,0;r9,100;");
       due("at 22", x.does(0, 22, 1), 1);
       due("at 23 it helps no more", x.does(0, 23, 1), 0);
+    });
+    test(22, "with a set of STORMS (bits) that are still possible", "the set that is given, whatever is THOUGHT", () -> {
+      StormHarbours x = Bounds.laid(GALE + "g0,0,1;");
+      due("sign", x.sign(0), 2);
+      due("both at 4", x.does(0, 4, 3), 1);
+      due("the storm at 4", x.does(0, 4, 1), 1);
+      due("the calm at 4", x.does(0, 4, 2), 0);
     });
     test(22, "a set of STORMS (1 and above)", "0, below, above all", () -> {
       for (int n = 1; n <= 4; n++) {
@@ -172,18 +186,23 @@ public final class BetterBounds {
         due("rounds again", x.better(true), 1);
       }
     });
-    test(23, "round by round, till a round changes none (6 rounds at most): how many rounds (that one, too)", "one to five, together", () -> {
+    test(23, "round by round, till a round changes none (6 rounds at most): how many rounds (that one, too)", "one to six, together", () -> {
       String[] seas = {
           "h1,1,8,7;b2,5,1,0,3;b1,5,6,5,4;d0,0,3;d1,0,7;s10,4,1,9,20,0;r9,3;r5,45;",
           "h2,1,9,7;b3,6,0,53,1;b4,5,5,43,2;d0,0,20;d1,0,5;s10,7,6,9,6,0;r9,50;r5,4;",
           "h3,2,1,3;b3,8,2,28,1;b3,8,4,93,4;d0,0,2;d1,0,20;s10,7,7,9,11,3;r9,168;r5,6;",
           "h4,1,6,8;b3,8,1,63,2;b2,6,7,299,3;d0,0,2;d1,0,15;s10,9,8,9,4,1;r9,90;r5,93;",
-          "h6,2,5,1;b2,1,8,191,4;b4,2,8,247,3;b4,9,4,284,2;d0,0,7;d1,0,17;d2,0,14;s10,7,6,9,21,3;r9,87;r5,175;"};
+          "h6,2,5,1;b2,1,8,191,4;b4,2,8,247,3;b4,9,4,284,2;d0,0,7;d1,0,17;d2,0,14;s10,7,6,9,21,3;r9,87;r5,175;",
+          "h6,2,5,9;b2,3,3,207,1;b1,9,3,165,2;b4,5,5,80,3;b4,8,5,182,3;d0,0,15;d1,0,13;d2,0,8;d3,0,12;s10,3,5,9,17,2;r9,60;r5,108;"};
       for (int k = 0; k < seas.length; k++) {
         StormHarbours x = Bounds.laid(seas[k]);
         due("rounds of " + seas[k], x.better(false), k + 1);
         due("rounds again", x.better(false), 1);
       }
+    });
+    test(23, "rounds; NONE: still changed in the last", "a seventh round would change none", () -> {
+      due("rounds", Bounds.laid("h4,1,7,1;b3,7,7,242,3;b1,2,0,35,2;b1,3,3,246,4;d0,0,4;d1,0,4;d2,0,3;s10,9,5,9,12,2;r9,192;r5,135;").better(true), NONE);
+      due("rounds", Bounds.laid("h4,2,6,7;b3,9,6,125,4;b1,4,0,38,1;b1,9,5,218,4;d0,0,9;d1,0,12;d2,0,14;s10,9,5,9,7,3;r9,52;r5,130;").better(true), NONE);
     });
     test(23, "rounds; NONE: still changed in the last", "two SORTS that never come to rest", () -> {
       due("rounds", Bounds.laid("h3,2,1,3;b3,8,2,28,1;b3,8,4,93,4;d0,0,2;d1,0,20;s10,7,7,9,11,3;r9,168;r5,6;").better(true), NONE);
@@ -198,6 +217,27 @@ public final class BetterBounds {
       y.plan(0, 24, 1);
       due("never has no greater one", y.better(true), 1);
       due("plan", y.plan(0, 24, 0), 241);
+    });
+    test(23, "SORT by SORT, from 0 on, each gets", "four SORTS, four HARBOURS, the last of them", () -> {
+      // Only HARBOUR 3 is near enough for each.
+      StormHarbours x = Bounds.laid("h9,9,10,0;".repeat(3) + "h32,9,10,0;" + "b1,9,0,10,1;".repeat(4) + "d0,3,9;d1,3,9;d2,3,9;d3,3,9;s10,1,9,9,24,0;r9,100;");
+      due("rounds", x.better(false), 2);
+      for (int i = 0; i < 4; i++) due("plan of SORT " + i, x.ran(0, 0, i), 3);
+      due("each for itself", x.better(true), 1);
+      due("mean", x.mean(), 0);
+    });
+    test(23, "MEAN of PLANS: the sum of tenths times VALUE over STORMS that are THOUGHT of", "the storm alone, the calm alone", () -> {
+      for (int own = 0; own < 2; own++) {
+        StormHarbours x = Bounds.laid(GALE + "g0,0,1;");
+        due("sign", x.sign(1), 1);
+        due("rounds", x.better(own == 1), 2);
+        due("plan", x.plan(0, 0, 0), 40);
+        StormHarbours y = Bounds.laid(GALE + "g0,0,1;");
+        y.plan(0, 4, 0);
+        due("sign", y.sign(0), 2);
+        due("rounds", y.better(own == 1), 2);
+        due("plan", y.plan(0, 0, 0), 240);
+      }
     });
     test(23, "MEAN of PLANS: the sum of tenths times VALUE over STORMS that are THOUGHT of", "STORMS of 0 tenths alone: none is greater", () -> {
       StormHarbours x = Bounds.laid(GALE.replace("s5,5", "s0,5").replace("s5,0", "s10,0") + "g0,0,1;");
@@ -231,10 +271,26 @@ public final class BetterBounds {
       for (int t = 1; t < 24; t++) lives = lives * 900 / 1000;
       due("gun", x.gun(0), -100 * (1000000 - lives));
     });
+    test(24, "all SORTS run to their NEAREST at u", "four SORTS, four HARBOURS", () -> {
+      StormHarbours x = Bounds.laid("h1,9,1,15;".repeat(3) + "h32,9,10,0;" + "b8,9,1,100,1;".repeat(4) + "d0,3,9;d1,3,9;d2,3,9;d3,3,9;" + CALM);
+      due("gun(7)", x.gun(7), 10L * 32 * 7000000);
+      due("bestGun", x.bestGun(), 24);
+    });
+    test(24, "MEAN at u", "STORMS that are THOUGHT of alone", () -> {
+      StormHarbours x = Bounds.laid(GALE + "g0,0,1;");
+      due("both", x.gun(5), 5 * (5000000 - 19000000) + 5 * 5000000);
+      x.sign(0);
+      due("the calm", x.gun(5), 5 * 5000000);
+      due("its best HOUR", x.bestGun(), 24);
+    });
     test(25, "the best HOUR (0 to 24), the first", "0, 4, 24", () -> {
       due("all as good", Bounds.laid("h9,9,10,0;b1,9,0,10,1;" + CALM).bestGun(), 0);
       due("just ahead of the storm", Bounds.laid(HARD).bestGun(), 4);
       due("never", new StormHarbours().bestGun(), 24);
+    });
+    test(25, "the best HOUR (0 to 24), the first", "0 and 1 alone are the best", () -> {
+      due("0", Bounds.laid(HARD.replace("s10,5", "s10,1")).bestGun(), 0);
+      due("1", Bounds.laid(HARD.replace("s10,5", "s10,2")).bestGun(), 1);
     });
     test(25, "the best HOUR (0 to 24), the first", "of several the first", () -> {
       due("0 to 4", Bounds.laid(HARD.replace("b1,9,1", "b1,9,0")).bestGun(), 0);
@@ -311,6 +367,48 @@ public final class BetterBounds {
       due("its PLAN stays", x.plan(1, 7, 1), 71);
       due("the other's PLAN stays", x.plan(0, 24, 0), 240);
     });
+    test(26, "all of them make the least SPEED of these", "the slowest told first, between, last", () -> {
+      // 9 miles by the least SPEED, 1: all are in at 9.
+      for (String speeds : new String[] {"1,9,9", "9,1,9", "9,9,1"}) {
+        String[] of = speeds.split(",");
+        StormHarbours x = Bounds.laid("h9,9,10,0;b1," + of[0] + ",0,100,1;b1," + of[1] + ",0,100,1;b1," + of[2] + ",0,100,1;d0,0,9;d1,0,9;d2,0,9;s10,0,1,1,24,0;r1,100;");
+        due("SPEEDS " + speeds, x.convoy(7, 0, 0), -3000 * lostIn(9));
+      }
+    });
+    test(26, "at u (0 to 23): all of them make the least SPEED of these: MEAN", "STORMS that are THOUGHT of alone", () -> {
+      StormHarbours x = Bounds.laid(GALE + "g0,0,1;");
+      due("both", x.convoy(1, 5, 0), 5 * (5000000 - 19000000) + 5 * 5000000);
+      x.sign(0);
+      due("the calm", x.convoy(1, 5, 0), 5 * 5000000);
+    });
+    test(26, "all of them make the least SPEED of these", "the other calls don't", () -> {
+      StormHarbours x = Bounds.laid(sea);
+      for (int i = 0; i < 3; i++) x.plan(i, 0, 0);
+      long mean = -1000 * (lost[0] + lost[1] + lost[2]);
+      x.convoy(7, 0, 0);
+      due("mean", x.mean(), mean);
+      x.convoy(7, 0, 0);
+      due("value", x.value(0), mean / 10);
+      x.convoy(7, 0, 0);
+      due("lives", x.lives(0, 0, 0), 900000);
+      x.convoy(7, 23, 0);
+      due("in", x.in(0, 0), 1);
+      x.convoy(7, 0, 0);
+      due("by", x.by(0), mean);
+      x.convoy(7, 0, 0);
+      due("gun", x.gun(0), mean);
+      x.convoy(7, 0, 0);
+      due("first", x.first(), mean);
+      StormHarbours y = Bounds.laid(HARD + "b1,1,1,100,1;d1,0,9;");
+      y.convoy(3, 0, 0);
+      due("better", y.better(false), 2);
+      due("the quick one is in at 5", y.ran(0, 0, 0), 40);
+      x.plan(2, 13, 0);
+      x.plan(1, 14, 0);
+      x.plan(0, 15, 0);
+      x.convoy(7, 0, 0);
+      due("shut", x.shut(0), NONE);
+    });
     test(26, "all of them make the least SPEED of these", "the slowest of the SORTS that are not in it does not count", () -> {
       StormHarbours x = Bounds.laid(sea);
       due("the quick one", x.convoy(1, 0, 0), -1000 * (lost[0] + 2 * lostIn(24)));
@@ -348,6 +446,37 @@ public final class BetterBounds {
     });
     test(27, "at all MOUTHS those go in first", "who is not yet there does not", () -> {
       due("SORT 1, dearer, an HOUR late", firstOf(String.format(sea, 1, 1, 10, 1), 0, 1), -100 * lostIn(23));
+    });
+    test(27, "at all MOUTHS those go in first", "in the other calls they don't", () -> {
+      StormHarbours x = Bounds.laid(String.format(sea, 1, 1, 10, 1));
+      x.plan(0, 0, 0);
+      x.plan(1, 0, 0);
+      long mean = -100 * lostIn(23);
+      due("first", x.first(), mean / 10);
+      due("mean", x.mean(), mean);
+      x.first();
+      due("value", x.value(0), mean / 10);
+      x.first();
+      due("lives", x.lives(0, 0, 0), 1000000);
+      x.first();
+      due("in", x.in(0, 0), 1);
+      x.first();
+      due("shut", x.shut(0), 10);
+      x.first();
+      due("by", x.by(0), mean);
+      x.first();
+      due("gun", x.gun(0), mean);
+      x.first();
+      due("convoy", x.convoy(3, 0, 0), mean);
+      x.first();
+      due("better: SORT 0 gives way", x.better(false), 2);
+    });
+    test(27, "MEAN of the PLANS", "STORMS that are THOUGHT of alone", () -> {
+      StormHarbours x = Bounds.laid(GALE + "g0,0,1;");
+      x.plan(0, 5, 0);
+      due("both", x.first(), 5 * (5000000 - 19000000) + 5 * 5000000);
+      x.sign(0);
+      due("the calm", x.first(), 5 * 5000000);
     });
     test(27, "MEAN of the PLANS", "none runs: it is the MEAN", () -> {
       StormHarbours x = Bounds.laid(String.format(sea, 1, 1, 10, 1));

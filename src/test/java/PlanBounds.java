@@ -306,6 +306,13 @@ public final class PlanBounds {
       x.plan(1, 24, 0);
       due("never", x.shut(0), NONE);
     });
+    test(15, "NONE (no such one: none that runs does not get in)", "all of four SORTS get in, the last in the last HOUR", () -> {
+      StormHarbours x = Bounds.laid("h32,8,10,0;" + "b8,9,1,1,1;".repeat(4) + "d0,0,1;d1,0,1;d2,0,1;d3,0,1;" + CALM);
+      for (int i = 0; i < 4; i++) x.plan(i, 19, 0);
+      due("20 to 23", x.shut(0), NONE);
+      for (int i = 0; i < 4; i++) x.plan(i, 20, 0);
+      due("21 to 23", x.shut(0), 30);
+    });
     test(15, "the first boat that can't get in where it is sent in a STORM (10 times SORT, and number)", "no ROOM, no HOUR, no open BAR", () -> {
       StormHarbours x = Bounds.laid("h7,9,10,0;h9,1,10,0;h9,9,1,15;h9,9,10,0;b8,9,1,1,1;d0,0,1;d0,1,1;d0,2,1;d0,3,99;s10,1,9,9,24,0;w9;");
       x.plan(0, 0, 0);

@@ -5,7 +5,7 @@ import java.util.function.ToLongFunction;
 
 /**
  * "nothing changes then": behind each call that is refused, an object answers all that can be asked
- * as its twin does, that was not called.
+ * as its twin does, that was not called. So it does behind each call that asks alone.
  */
 public final class RefusedCalls {
   private static final int BAD = Bounds.BAD, NO = Bounds.NO, FULL = Bounds.FULL, NONE = Bounds.NONE;
@@ -13,7 +13,7 @@ public final class RefusedCalls {
   private static final String QUOTE = "Of several the first; nothing changes then.";
 
   private static final String BAY = "h2,1,3,1;h9,9,10,0;b3,5,2,10,1;b1,4,0,100,2;d0,0,10;d0,1,30;d1,0,10;"
-      + "s5,2,2,4,3,0;s5,0,1,0,0,1;g0,1,5;r2,100;r4,200;w2;";
+      + "s5,2,2,4,20,0;s5,0,1,0,0,1;g0,1,5;r2,100;r4,200;w2;";
 
   /** A sea in which nothing is as at first, one KEPT, one HOUR on. */
   private static StormHarbours busy() {
@@ -120,7 +120,8 @@ public final class RefusedCalls {
     all.add(x.mean());
     all.add(x.first());
     all.add(x.gun(3));
-    all.add(x.convoy(3, 2, 0));
+    // A convoy's way is reckoned anew, by what is LAID, and not as lay left it.
+    all.add(x.convoy(3, 2, 1));
   }
 
   private static void plan(StormHarbours x, int i, List<Long> all) {
@@ -137,6 +138,43 @@ public final class RefusedCalls {
       List<Long> got = reading(x), want = reading(made.get());
       for (int k = 0; k < want.size(); k++) Bounds.due("behind it, question " + k, got.get(k), want.get(k));
     });
+  }
+
+  private static void asked(int promise, String call, ToLongFunction<StormHarbours> called) {
+    Bounds.test(promise, "Nothing is promised beyond the answers and state changes described above", call + " changes nothing", () -> {
+      StormHarbours x = busy();
+      long answer = called.applyAsLong(x);
+      Bounds.due(call + " again", called.applyAsLong(x), answer);
+      List<Long> got = reading(x), want = reading(busy());
+      for (int k = 0; k < want.size(); k++) Bounds.due("behind it, question " + k, got.get(k), want.get(k));
+    });
+  }
+
+  private static void questions() {
+    asked(4, "fault", x -> x.fault());
+    asked(6, "storm", x -> x.storm(1, 23, 1));
+    asked(7, "open", x -> x.open(1, 1, 23));
+    asked(8, "risk", x -> x.risk(1, 1, 23));
+    asked(9, "reach", x -> x.reach(1, 1, 1, 0));
+    asked(11, "value", x -> x.value(1));
+    asked(12, "in", x -> x.in(1, 1));
+    asked(13, "lives", x -> x.lives(1, 0, 2));
+    asked(14, "mean", x -> x.mean());
+    asked(15, "shut", x -> x.shut(0));
+    asked(17, "now", x -> x.now(3));
+    for (int rule = 0; rule <= 4; rule++) {
+      int r = rule;
+      asked(19, "by(" + r + ")", x -> x.by(r));
+      asked(20, "ran by " + r, x -> x.ran(r, 0, 1));
+      asked(28, "night by " + r, x -> x.night(4, r, 1));
+    }
+    asked(21, "alone", x -> x.alone(1));
+    asked(22, "does", x -> x.does(1, 0, 3));
+    asked(24, "gun", x -> x.gun(0));
+    asked(25, "bestGun", x -> x.bestGun());
+    asked(26, "convoy", x -> x.convoy(3, 0, 1));
+    asked(27, "first", x -> x.first());
+    asked(31, "count", x -> x.count(5));
   }
 
   private static void seas() {
@@ -221,6 +259,7 @@ public final class RefusedCalls {
     plans();
     signsAndRules();
     betters();
+    questions();
     Bounds.end();
   }
 }
